@@ -84,7 +84,8 @@ public final class ActsTest {
         x.tie(0, true);
         Check.refused("a full hand", Check.STATE, x, () -> x.wake(1));
         x.open(0);
-        Check.due("of just that size, by wool", 0, x.wake(1) + 0 * x.open(0));
+        Check.due("too large but for wool", 0, x.wake(1));
+        x.open(0);
         Check.refused("held", Check.STATE, x, () -> x.wake(2));
         Check.refused("laid", Check.STATE, x, () -> x.wake(3));
         Check.refused("the crown's", Check.STATE, x, () -> x.wake(4));
@@ -120,7 +121,7 @@ public final class ActsTest {
         Check.due("nothing", -1, x.person(0, 5));
         Check.due("held", 2, x.person(1, 5));
         Check.due("its own again", 1, x.thing(2, 2));
-        Check.due("swap nothing for a thing", 0, x.swap(1, 2) == 0 ? 0 : 1);
+        Check.due("swap", 0, x.swap(1, 2));
         Check.due("too large, but swapped", 0, x.person(1, 5));
         x.open(1);
         Check.due("acts", 5, x.count(11));
