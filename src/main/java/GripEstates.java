@@ -1793,16 +1793,16 @@ public final class GripEstates {
         /** Of every set of people the most that pairs within it can be. */
         private void readPairs(Valley valley) {
             paired[0] = 0;
-            for (int set = 1; set < 1 << valley.people; set++) {
-                int first = Integer.numberOfTrailingZeros(set);
-                int rest = set & ~(1 << first);
-                int most = paired[rest];
-                for (int p = first + 1; p < valley.people; p++) {
-                    if ((rest >> p & 1) == 1 && mayPair(valley, first, p)) {
-                        most = Math.max(most, gripsOf(valley, first, p) + paired[rest & ~(1 << p)]);
+            for (int last = 0; last < valley.people; last++) {
+                for (int rest = 0; rest < 1 << last; rest++) {
+                    int most = paired[rest];
+                    for (int p = 0; p < last; p++) {
+                        if ((rest >> p & 1) == 1 && mayPair(valley, last, p)) {
+                            most = Math.max(most, gripsOf(valley, last, p) + paired[rest & ~(1 << p)]);
+                        }
                     }
+                    paired[rest | 1 << last] = most;
                 }
-                paired[set] = most;
             }
         }
 

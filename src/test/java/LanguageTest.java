@@ -31,7 +31,7 @@ import javax.tools.ToolProvider;
 /** ../shared/LANGUAGE.md, so far as a compiler's tree shows it. */
 public final class LanguageTest extends TreePathScanner<Void, Void> {
     private static final Set<String> LIBRARY = Set.of("String.length", "String.charAt", "Integer.bitCount",
-        "Integer.numberOfTrailingZeros", "Math.min", "Math.max", "System.arraycopy", "Array.clone",
+        "Math.min", "Math.max", "System.arraycopy", "Array.clone",
         "Object.<init>", "Enum.<init>", "Token.values");
     private static final Set<String> THROWN = Set.of("IllegalStateException", "IllegalArgumentException",
         "IndexOutOfBoundsException", "UnsupportedOperationException", "NoSuchElementException");

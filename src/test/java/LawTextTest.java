@@ -7,6 +7,7 @@ public final class LawTextTest {
         conditions();
         deep();
         wrongTexts();
+        cutShort();
         tooMany();
         nothingStays();
         Check.end();
@@ -168,6 +169,31 @@ public final class LawTextTest {
         Check.due("numbers and signs run together", 1, Check.law(x, "grip1if1<2and(open)or not(2<age+1)"));
     }
 
+    /** Lines cut behind each word: right where they may end, else wrong at the end, or at what comes then. */
+    private static void cutShort() {
+        cut("grip 1 if open or tied and alone", 2, 4, 6, 8);
+        cut("slip 1 if not ( 1 + age < 2 or not tied )", 2, 14);
+        cut("fail 1 if 1 < 2 + 3 and person + size > night + laid + owns + hand", 2, 6, 8, 14, 16, 18, 20);
+        cut("fail 1 if ( ( open ) )", 2, 8);
+    }
+
+    private static void cut(String line, int... right) {
+        String[] words = line.split(" ");
+        StringBuilder text = new StringBuilder();
+        for (int n = 1; n <= words.length; n++) {
+            text.append(n == 1 ? "" : " ").append(words[n - 1]);
+            boolean may = false;
+            for (int r : right) {
+                may |= r == n;
+            }
+            GripEstates x = new GripEstates();
+            Check.due("cut: " + text, may ? 1 : Check.ARGUMENT, Check.law(x, text.toString()));
+            Check.due("cut, where: " + text, may ? -1 : text.length(), x.fault());
+            Check.due("a line more: " + text, may ? 2 : Check.ARGUMENT, Check.law(x, text + ";fail 1"));
+            Check.due("a line more, where: " + text, may ? -1 : text.length(), x.fault());
+        }
+    }
+
     private static void tooMany() {
         String twelve = "grip 1;".repeat(11) + "grip 2";
         GripEstates x = Check.of("person age 1 grip 1");
@@ -175,6 +201,11 @@ public final class LawTextTest {
         Check.due("grips", 14, x.person(0, 6));
         wrongAt("13 lines", twelve + "; slip 3", twelve.length() + 2);
         wrongAt("12 lines and ;", twelve + ";", twelve.length() + 1);
+        wrongAt("400 signs", "(".repeat(400), 0);
+        String sum = "fail 1 if 0<1" + "+1".repeat(193);
+        Check.due("a text of just that many", 399, sum.length());
+        Check.due("a long sum", 1, Check.law(x, sum));
+        Check.due("it holds", 1, x.person(0, 7));
         String longest = "fail 1 if 1<2" + "or 1<2".repeat(64);
         Check.due("the longest", 397, longest.length());
         Check.due("the longest", 1, Check.law(x, longest));

@@ -8,6 +8,7 @@ public final class ValleyTextTest {
         oneBehindAnother();
         bounds();
         wrongTexts();
+        cutShort();
         wrongNumbersOfPeople();
         tooMany();
         twelveTexts();
@@ -123,6 +124,38 @@ public final class ValleyTextTest {
         wrongAt("a number with a letter", "death 3x", 7);
     }
 
+    /** Each line cut behind each of its words: right where it may end, else wrong at the end, or at what comes then. */
+    private static void cutShort() {
+        cut("person age 1 grip 2 heir 0 tied", 5, 7, 8);
+        cut("person age 1 grip 2 tied", 5, 6);
+        cut("heir 0 1", 3);
+        cut("thing worth 1 size 2 of 0 held 1", 7, 9);
+        cut("thing worth 1 size 2 of 0 cloth 1", 7, 9);
+        cut("crown worth 1 size 2", 5);
+        cut("death 1", 2);
+        cut("witnesses 1", 2);
+        cut("night 1", 2);
+    }
+
+    private static void cut(String line, int... right) {
+        String[] words = line.split(" ");
+        StringBuilder text = new StringBuilder();
+        for (int n = 1; n <= words.length; n++) {
+            text.append(n == 1 ? "" : " ").append(words[n - 1]);
+            boolean may = false;
+            for (int r : right) {
+                may |= r == n;
+            }
+            int place = may ? -1 : text.length();
+            GripEstates x = Check.of(TWO);
+            Check.due("cut: " + text, may ? 2 : Check.ARGUMENT, Check.valley(x, text.toString()));
+            Check.due("cut, where: " + text, place, x.fault());
+            GripEstates y = Check.of(TWO);
+            Check.due("a line more: " + text, may ? 2 : Check.ARGUMENT, Check.valley(y, text + ";death 1"));
+            Check.due("a line more, where: " + text, place, y.fault());
+        }
+    }
+
     private static void wrongNumbersOfPeople() {
         wrongAt("heir of a first one", "person age 1 grip 1 heir 0", 25);
         wrongAt("heir of a later one", TWO + ";person age 1 grip 1 heir 2", 67);
@@ -150,6 +183,8 @@ public final class ValleyTextTest {
         String fourteen = "death 1;".repeat(13) + "death 2";
         Check.due("14 lines", 2, Check.of(fourteen).count(4));
         wrongAt("15 lines", fourteen + "; death 3", fourteen.length() + 2);
+        wrongAt("400 signs", ";".repeat(400), 0);
+        wrongAt("400 blanks but one", "death 1" + " ".repeat(392) + "x", 399);
         wrongAt("14 lines and ;", fourteen + "; ", fourteen.length() + 2);
         String seven = "person age 1 grip 1;".repeat(6) + "person age 1 grip 2";
         Check.due("7 people", 7, Check.of(seven).count(0));
