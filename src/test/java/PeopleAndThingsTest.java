@@ -189,6 +189,8 @@ public final class PeopleAndThingsTest {
         persons("shares", y, 17, 27, 58, 0);
         GripEstates z = three(";thing worth 0 size 5 of 0");
         persons("shares of no worth", z, 17, 0, 0, 0);
+        GripEstates one = three(";thing worth 1 size 5 of 1;thing worth 0 size 1 of 0");
+        persons("all that there is", one, 17, 0, 100, 0);
     }
 
     private static void shutting() {
