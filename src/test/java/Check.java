@@ -10,6 +10,7 @@ final class Check {
 
     private static int wrong = 0;
     private static int checked = 0;
+    private static String heading = "";
 
     interface Call {
         long answer();
@@ -22,11 +23,16 @@ final class Check {
     private Check() {
     }
 
+    /** What stands ahead of each wrong answer that is told from now on. */
+    static void about(String sentence) {
+        heading = "[" + sentence + "] ";
+    }
+
     static void due(String what, long want, long got) {
         checked++;
         if (want != got) {
             wrong++;
-            System.out.println(what + ": answered " + shown(got) + ", due is " + shown(want));
+            System.out.println(heading + what + ": answered " + shown(got) + ", due is " + shown(want));
         }
     }
 
@@ -38,7 +44,7 @@ final class Check {
         checked++;
         if (!want.equals(got)) {
             wrong++;
-            System.out.println(what + ": answered " + got + ", due is " + want);
+            System.out.println(heading + what + ": answered " + got + ", due is " + want);
         }
     }
 
