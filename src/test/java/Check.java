@@ -138,8 +138,13 @@ final class Check {
 
     /** All that can be seen of an object without changing it, but for fault() and the image. */
     static String seen(GripEstates x) {
+        return seenButForActs(x) + "\nacts " + x.count(11) + " and " + x.count(12);
+    }
+
+    /** The same without how many acts can be undone. */
+    static String seenButForActs(GripEstates x) {
         StringBuilder all = new StringBuilder();
-        for (int what = -1; what <= 12; what++) {
+        for (int what = -1; what <= 10; what++) {
             all.append(x.count(what)).append(' ');
         }
         for (int p = 0; p < x.count(0); p++) {
