@@ -37,7 +37,9 @@ public final class EdgesOfCallsTest {
         births();
         gifts();
         hoards();
-        roundsOfNobody();
+        rounds();
+        escheats();
+        watches();
         puts();
         Check.end();
     }
@@ -627,10 +629,36 @@ public final class EdgesOfCallsTest {
         Check.due("of a dead one", 0, x.hoard(2, 120, false));
     }
 
-    private static void roundsOfNobody() {
+    private static void rounds() {
         Edges.says("`int round()`: ROUND, as bits.");
-        GripEstates x = new GripEstates();
-        Check.due("nobody", 0, x.round() + x.escheat() + x.watch());
+        Check.due("nobody", 0, new GripEstates().round());
+        GripEstates x = valley();
+        Check.due("no heirs", 0, x.round());
+        x.heir(1, 2);
+        x.heir(2, 1);
+        Check.due("by a dead one", 6, x.round());
+    }
+
+    private static void escheats() {
+        Edges.says("`int escheat()`: ESCHEAT, as bits.");
+        Check.due("nobody", 0, new GripEstates().escheat());
+        GripEstates x = valley();
+        x.heir(0, 1);
+        Check.due("one other is too few", 3, x.escheat());
+        Edges.tell(x, "witnesses 1");
+        Check.due("one other is enough", 2, x.escheat());
+    }
+
+    private static void watches() {
+        Edges.says("`int watch()`: WATCH, as bits.");
+        Check.due("nobody", 0, new GripEstates().watch());
+        GripEstates x = valley();
+        x.heir(0, 1);
+        Check.due("one other is too few", 3, x.watch());
+        Edges.tell(x, "witnesses 1");
+        Check.due("one other is enough", 2, x.watch());
+        x.heir(1, 0);
+        Check.due("of several the least", 1, x.watch());
     }
 
     private static void puts() {

@@ -16,7 +16,11 @@ public final class EdgesOfLaterCallsTest {
         rests();
         odds();
         most();
-        setsOfPeopleAndThings();
+        living();
+        idle();
+        crown();
+        wealth();
+        twins();
         ahead();
         trial();
         span();
@@ -231,16 +235,50 @@ public final class EdgesOfLaterCallsTest {
         }
     }
 
-    private static void setsOfPeopleAndThings() {
+    private static void living() {
         Edges.says("`int living()`: LIVING ones, as bits.");
+        Check.due("nobody", 0, new GripEstates().living());
         GripEstates x = valley();
-        Check.due("living", 3, x.living());
-        Check.due("idle", 2, x.idle());
-        Check.due("crown", 2, x.crown());
-        Check.due("wealth", 8, x.wealth());
-        Check.due("twins", 0, x.twins());
-        GripEstates nobody = new GripEstates();
-        Check.due("of nobody", 0, nobody.living() + nobody.idle() + nobody.crown() + nobody.wealth() + nobody.twins());
+        Check.due("without the dead one", 3, x.living());
+        Check.due("with one born", 3, x.born(0));
+        Check.due("with one born", 11, x.living());
+    }
+
+    private static void idle() {
+        Edges.says("`int idle()`: OPEN, as bits.");
+        Check.due("nobody", 0, new GripEstates().idle());
+        GripEstates x = valley();
+        Check.due("without the dead one, and who holds", 2, x.idle());
+        x.open(0);
+        Check.due("without the dead one", 3, x.idle());
+    }
+
+    private static void crown() {
+        Edges.says("`int crown()`: CROWN, as bits.");
+        Check.due("nothing", 0, new GripEstates().crown());
+        GripEstates x = valley();
+        Check.due("the last", 2, x.crown());
+        Edges.die(x, "person < 1", 1);
+        Check.due("both", 3, x.crown());
+    }
+
+    private static void wealth() {
+        Edges.says("`int wealth()`: WEALTH of the CROWN.");
+        Check.due("nothing", 0, new GripEstates().wealth());
+        GripEstates x = valley();
+        Check.due("of the last", 8, x.wealth());
+        Edges.die(x, "person < 1", 1);
+        Check.due("of both", 13, x.wealth());
+        Check.due("of no worth", 0, Check.of("crown worth 0 size 1").wealth());
+    }
+
+    private static void twins() {
+        Edges.says("`int twins()`: TWINS.");
+        Check.due("nothing", 0, new GripEstates().twins());
+        GripEstates x = valley();
+        Check.due("none", 0, x.twins());
+        Edges.tell(x, "crown worth 5 size 5");
+        Check.due("whosever they are", 1, x.twins());
     }
 
     private static void ahead() {

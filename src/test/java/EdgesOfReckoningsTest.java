@@ -12,6 +12,7 @@ public final class EdgesOfReckoningsTest {
         escheats();
         hangs();
         watching();
+        puttingWhosever();
         putting();
         puttingFirst();
         coresOfTheirOwn();
@@ -226,6 +227,23 @@ public final class EdgesOfReckoningsTest {
         Edges.die(x, "person < 6", 6);
         Check.due("nobody lives", 0, x.watch());
         Check.due("there is nobody", 0, new GripEstates().watch());
+    }
+
+    private static void puttingWhosever() {
+        Edges.says("PUT: THINGS (whoever's, wherever, those that others hold, too) put to HANDS of LIVING ones,");
+        GripEstates x = of(4, "crown worth 1 size 5;thing worth 2 size 5 of 0 held 3;thing worth 4 size 12 of 0;"
+            + "thing worth 8 size 5 of 1 cloth 3;thing worth 16 size 5 of 3 held 0");
+        // In four hands all but the large one.
+        Check.due("how much", 27, x.put(-1));
+        int[] which = {0, 1, 3, 4};
+        for (int p = 0; p < 4; p++) {
+            Check.due("which", which[p], x.put(p));
+        }
+        Edges.die(x, "person > 2", 1);
+        Check.due("in three hands", 26, x.put(-1));
+        Check.due("the dead one has none", -1, x.put(3));
+        Edges.die(x, "person < 3", 3);
+        Check.due("nobody lives", 0, x.put(-1));
     }
 
     private static void putting() {

@@ -31,10 +31,13 @@ public final class EdgesOfTextsTest {
         linesOfTheLaw();
         lessAndMore();
         digitsOfTheLaw();
+        handsByGrip();
+        ownsAndLaid();
         sizeOfNothing();
         nightModuloHundred();
         openHands();
         aloneOnes();
+        twoMoreByWool();
         gripsAtLeast();
         failsAtMost();
         wordsEnd();
@@ -361,6 +364,10 @@ public final class EdgesOfTextsTest {
         String eleven = "grip 1;".repeat(11);
         Check.due("12 lines", 12, Check.law(x, eleven + "grip 20"));
         Check.due("all count", 36, x.person(0, 6));
+        Check.due("12 lines with conditions", 12, Check.law(x, "grip 1 if tied;".repeat(11) + "grip 20 if open"));
+        Check.due("the last alone holds", 25, x.person(0, 6));
+        Check.due("12 lines with conditions", 12, Check.law(x, "grip 1 if open;".repeat(11) + "grip 20 if tied"));
+        Check.due("all but the last hold", 16, x.person(0, 6));
         Edges.wrongLaw(x, eleven + "grip 20;@grip 1");
         Edges.wrongLaw(x, eleven + "grip 20 ; @slip 1 if open");
         Edges.wrongLaw(x, eleven + "grip 20;@");
@@ -394,6 +401,24 @@ public final class EdgesOfTextsTest {
         Edges.wrongLaw(x, "grip 1 if 1 < @1000");
         Check.lawIs(x, "grip 1 if 999 > 998 and 000 < 1");
         Check.due("999 and 0", 6, x.person(0, 6));
+    }
+
+    private static void handsByGrip() {
+        Edges.says("hand: its GRIP;");
+        GripEstates x = Check.of("person age 0 grip 0;person age 0 grip 9;person age 0 grip 9 tied");
+        Check.lawIs(x, "grip 1 if hand < 1;grip 10 if hand > 8;grip 20 if hand > 9");
+        Edges.person(x, 6, 1, 19, 21);
+    }
+
+    private static void ownsAndLaid() {
+        Edges.says("owns: how many THINGS it OWNS; laid: how many lie on its CLOTH;");
+        GripEstates x = Check.of(TWO + "thing worth 1 size 9 of 0 cloth 1" + ";thing worth 1 size 9 of 0 cloth 1".repeat(9));
+        Check.lawIs(x, "grip 1 if owns < 1;grip 2 if laid < 1;grip 4 if owns > 9;grip 8 if laid > 9;grip 40 if owns > 10 or laid > 10");
+        Edges.person(x, 6, 11, 14);
+        x.clear(9);
+        Edges.person(x, 6, 11, 6);
+        x.give(9, 1);
+        Edges.person(x, 6, 7, 5);
     }
 
     private static void sizeOfNothing() {
@@ -434,6 +459,16 @@ public final class EdgesOfTextsTest {
         Edges.person(x, 6, 5, 6, 6);
         Edges.tell(x, "witnesses 3");
         Edges.person(x, 6, 6, 6, 6);
+    }
+
+    private static void twoMoreByWool() {
+        Edges.says("GRIPS: GRIP, 2 more, if it is TIED, the sum of N of all grip LINES that hold more,");
+        GripEstates x = Check.of("person age 0 grip 0;person age 0 grip 0 tied;person age 0 grip 9 tied");
+        Edges.person(x, 6, 0, 2, 11);
+        Check.lawIs(x, "grip 40;".repeat(11) + "grip 40");
+        Edges.person(x, 6, 480, 482, 491);
+        Check.lawIs(x, "grip 40 if 1<0");
+        Edges.person(x, 6, 0, 2, 11);
     }
 
     private static void gripsAtLeast() {

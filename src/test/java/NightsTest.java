@@ -21,12 +21,6 @@ public final class NightsTest {
         Check.end();
     }
 
-    private static void rowIs(GripEstates x, int ago, int... row) {
-        for (int what = 0; what < row.length; what++) {
-            Check.due("row " + ago + " what " + what, row[what], x.log(ago, what));
-        }
-    }
-
     private static void wrongInputs() {
         GripEstates x = Check.of("person age 40 grip 5;thing worth 1 size 9 of 0 held 0");
         Check.refused("nights 0", Check.ARGUMENT, x, () -> x.nights(0));
@@ -64,14 +58,14 @@ public final class NightsTest {
             + "thing worth 10 size 7 of 0 held 0;thing worth 20 size 3 of 0 cloth 0;thing worth 1 size 9 of 1 held 2");
         Check.due("a night", 0, x.nights(1));
         Check.due("rows", 2, x.count(10));
-        rowIs(x, 1, 0, 0, 0, 0, 40);
-        rowIs(x, 0, 0, 0, 2, 0, 40);
+        Edges.row(x, 1, 0, 0, 0, 0, 40);
+        Edges.row(x, 0, 0, 0, 2, 0, 40);
         Check.due("it lies on the cloth", 3, x.person(0, 9));
         Check.due("nothing held", -1, x.person(0, 5));
         Check.due("of just that size", 2, x.person(2, 5));
         Check.due("night", 1, x.count(6));
         Check.due("a night more", 0, x.nights(1));
-        rowIs(x, 0, 1, 0, 1, 1, 40);
+        Edges.row(x, 0, 1, 0, 1, 1, 40);
         Check.due("held", 1, x.person(0, 5));
         Check.due("not on the cloth any more", 1, x.person(0, 9));
         Check.due("in a hand", 1, x.thing(1, 3));
@@ -115,13 +109,13 @@ public final class NightsTest {
         Check.due("the heir has it", 1, x.thing(0, 2));
         Check.due("the heir has it", 1, x.thing(1, 2));
         Check.due("put by", 0, x.thing(0, 3) + x.thing(1, 3));
-        rowIs(x, 1, 0, 0, 3, 0, 40);
-        rowIs(x, 0, 0, 2, 3, 1, 30);
+        Edges.row(x, 1, 0, 0, 3, 0, 40);
+        Edges.row(x, 0, 0, 2, 3, 1, 30);
         Check.due("death is told by the log of one", 1, x.led(2, false));
         Check.due("living no more", 0, x.person(0, 4));
         // Next 17515: 15 is below 54.
         Check.due("the last dies", 1, x.nights(1));
-        rowIs(x, 0, 1, 1, 3, -1, 20);
+        Edges.row(x, 0, 1, 1, 3, -1, 20);
         Check.due("all is the crown's", 3, x.crown());
         Check.due("its worth", 30, x.wealth());
         Check.due("nobody is left to die", 0, x.nights(60));
@@ -159,7 +153,7 @@ public final class NightsTest {
             Check.due("where thing " + t, 0, x.thing(t, 3));
             Check.due("by whom thing " + t, -1, x.thing(t, 4));
         }
-        rowIs(x, 0, 0, 0, 3, 0, 0);
+        Edges.row(x, 0, 0, 0, 3, 0, 0);
     }
 
     private static void ageing() {
@@ -175,29 +169,19 @@ public final class NightsTest {
         Check.due("night", 20, x.count(6));
         // Age counts for that very night: fails 0 at 4, 1 at 5; the draw is 0 modulo 100 by this seed.
         GripEstates y = Check.of("person age 4 grip 5;night 9");
-        y.seed(seedOfDraw(0));
+        y.seed(Edges.seedOf(100, 0));
         Check.due("it is older by then", 1, y.nights(1));
-        rowIs(y, 0, 9, 0, 3, -1, 5);
+        Edges.row(y, 0, 9, 0, 3, -1, 5);
         GripEstates z = Check.of("person age 4 grip 5;night 10");
-        z.seed(seedOfDraw(0));
+        z.seed(Edges.seedOf(100, 0));
         Check.due("not in another night", 0, z.nights(1));
         GripEstates w = Check.of("person age 0 grip 5;death 57");
-        w.seed(seedOfDraw(57));
+        w.seed(Edges.seedOf(100, 57));
         Check.due("not below", 0, w.nights(1));
-        w.seed(seedOfDraw(56));
+        w.seed(Edges.seedOf(100, 56));
         Check.due("below", 1, w.nights(1));
         x.nights(60);
         Check.due("the dead grow no older", true, x.person(1, 0) == 99);
-    }
-
-    /** A seed of which the next draw is this modulo 100. */
-    private static int seedOfDraw(int modulo) {
-        for (int seed = 0; seed < 100000; seed++) {
-            if (((seed * 1103515245 + 12345) >>> 16 & 32767) % 100 == modulo) {
-                return seed;
-            }
-        }
-        return 0;
     }
 
     private static void nightsAtMost() {
@@ -220,17 +204,17 @@ public final class NightsTest {
             + "thing worth 1 size 5 of 0 held 1");
         Check.lawIs(x, "grip 3 if open");
         Check.due("nobody dies", 0, x.nights(1));
-        rowIs(x, 1, 0, 0, 0, 0, 0);
-        rowIs(x, 0, 0, 0, 1, 0, 0);
+        Edges.row(x, 1, 0, 0, 0, 0, 0);
+        Edges.row(x, 0, 0, 0, 1, 0, 0);
         Check.due("it holds it again", 0, x.person(0, 5));
         // By night: what is held slips in night 3 alone.
         GripEstates y = Check.of("person age 0 grip 5;thing worth 1 size 5 of 0 held 0");
         Check.lawIs(y, "slip 1 if night > 2 and night < 4");
         y.nights(10);
         Check.due("rows", 3, y.count(10));
-        rowIs(y, 2, 3, 0, 0, 0, 0);
-        rowIs(y, 1, 3, 0, 2, 0, 0);
-        rowIs(y, 0, 4, 0, 1, 0, 0);
+        Edges.row(y, 2, 3, 0, 0, 0, 0);
+        Edges.row(y, 1, 3, 0, 2, 0, 0);
+        Edges.row(y, 0, 4, 0, 1, 0, 0);
     }
 
     private static void aheadOfNights() {
@@ -296,9 +280,9 @@ public final class NightsTest {
             + "thing worth 1 size 5 of 0 cloth 0;thing worth 1 size 5 of 0 cloth 1;thing worth 1 size 5 of 0 cloth 2");
         x.nights(7);
         Check.due("rows", 21, x.count(10));
-        rowIs(x, 0, 6, 2, 2, 2, 0);
-        rowIs(x, 1, 6, 1, 2, 1, 0);
-        rowIs(x, 20, 0, 0, 2, 0, 0);
+        Edges.row(x, 0, 6, 2, 2, 2, 0);
+        Edges.row(x, 1, 6, 1, 2, 1, 0);
+        Edges.row(x, 20, 0, 0, 2, 0, 0);
         Check.due("no row", -2, x.log(21, 0));
         x.clear(2);
         x.nights(15);
@@ -309,14 +293,14 @@ public final class NightsTest {
         Check.due("led 1 to its night", 21, x.led(1, true));
         x.nights(10);
         Check.due("rows at most", 60, x.count(10));
-        rowIs(x, 59, 3, 2, 2, 2, 0);
-        rowIs(x, 58, 4, 0, 2, 0, 0);
-        rowIs(x, 0, 31, 1, 2, 1, 3);
+        Edges.row(x, 59, 3, 2, 2, 2, 0);
+        Edges.row(x, 58, 4, 0, 2, 0, 0);
+        Edges.row(x, 0, 31, 1, 2, 1, 3);
         Check.due("led 2, of rows gone", 4, x.led(2, false));
         Check.due("led 0, of rows gone", 28, x.led(0, false));
         Check.due("beyond", -2, x.log(60, 0));
         x.undo();
         Check.due("undone", 51, x.count(10));
-        rowIs(x, 50, 0, 0, 2, 0, 0);
+        Edges.row(x, 50, 0, 0, 2, 0, 0);
     }
 }

@@ -89,13 +89,13 @@ public final class PeopleAndThingsTest {
         // Person 1 dies alone: by law it fails surely, the others not at all.
         GripEstates y = Check.of("person age 0 grip 5;person age 0 grip 3;person age 0 grip 9;person age 0 grip 1;"
             + "heir 0 1;heir 1 0;heir 2 1;heir 3 1;witnesses 0");
-        killing(y, "person > 0 and person < 2");
+        Edges.die(y, "person > 0 and person < 2", 1);
         persons("round by a dead one to itself; dead; over it; over it", y, 10, -1, 0, 0, 0);
         y.heir(1, 3);
         persons("over the dead one", y, 10, 3, 3, 3, -1);
         y.heir(1, 1 - 2);
         persons("the dead one's line ends", y, 10, -1, -1, -1, -1);
-        killing(y, "person < 1");
+        Edges.die(y, "person < 1", 1);
         y.heir(0, 1);
         y.heir(1, 0);
         persons("round among the dead", y, 10, -1, -1, -1, -1);
@@ -103,12 +103,6 @@ public final class PeopleAndThingsTest {
         persons("out of the round", y, 10, 2, 2, -1, 2);
         Check.due("witnesses 2", 2, Check.valley(y, "witnesses 2"));
         persons("two others live for the dead, one for each living one", y, 10, 2, 2, -1, -1);
-    }
-
-    private static void killing(GripEstates x, String who) {
-        Check.lawIs(x, "fail 40 if " + who + ";fail 40 if " + who + ";fail 40 if " + who);
-        Check.due("one dies by law", 1, x.nights(1));
-        Check.lawIs(x, "");
     }
 
     private static void estates() {
@@ -122,7 +116,7 @@ public final class PeopleAndThingsTest {
         x.heir(2, 0);
         persons("estates", x, 11, 0, 0, 9);
         persons("lost", x, 12, 88, 0, 0);
-        killing(x, "person > 1");
+        Edges.die(x, "person > 1", 1);
         persons("estates, one dead", x, 11, 0, 0, 0);
         persons("lost, one dead", x, 12, 97, 0, 0);
         Check.due("it came to the heir", 0, x.thing(3, 2));
@@ -138,7 +132,7 @@ public final class PeopleAndThingsTest {
         persons("round to itself", x, 13, 7, 7, 7, 0, 8);
         x.heir(3, 0);
         persons("into a round", x, 13, 7, 7, 7, 7, 15);
-        killing(x, "person > 0 and person < 2");
+        Edges.die(x, "person > 0 and person < 2", 1);
         persons("the dead are in it", x, 13, 7, 7, 7, 7, 15);
     }
 
@@ -146,7 +140,7 @@ public final class PeopleAndThingsTest {
         GripEstates x = Check.of("person age 0 grip 1;person age 0 grip 1 heir 0;person age 0 grip 1 heir 0;"
             + "person age 0 grip 1 heir 2");
         persons("hangs", x, 14, 6, 0, 8, 0);
-        killing(x, "person > 1 and person < 3");
+        Edges.die(x, "person > 1 and person < 3", 1);
         persons("hangs over a dead one", x, 14, 10, 0, 0, 0);
     }
 
@@ -178,7 +172,7 @@ public final class PeopleAndThingsTest {
         GripEstates y = Check.of("person age 0 grip 4;person age 0 grip 4;thing worth 5 size 2 of 0 held 1;"
             + "thing worth 5 size 4 of 1 held 0");
         persons("of like worth", y, 16, 1, 0);
-        killing(x, "person > 3");
+        Edges.die(x, "person > 3", 1);
         persons("core of a dead one, and of those that let go", x, 16, -1, 1, -1, -1, -1);
     }
 

@@ -63,12 +63,6 @@ public final class ReckoningsTest {
         Check.due("how much", 40, x.hoard(0, 9, false));
     }
 
-    private static void kill(GripEstates x, String who, int many) {
-        Check.lawIs(x, "fail 40 if " + who + ";fail 40 if " + who + ";fail 40 if " + who);
-        Check.due("who die by law", many, x.nights(1));
-        Check.lawIs(x, "");
-    }
-
     private static void roundsAndEscheats() {
         GripEstates x = Check.of("person age 0 grip 5;person age 0 grip 5 heir 0;person age 0 grip 5 heir 1;"
             + "person age 0 grip 5");
@@ -82,7 +76,7 @@ public final class ReckoningsTest {
         x.heir(3, 0);
         Check.due("into a round is not round", 7, x.round());
         Check.due("all have one", 0, x.escheat());
-        kill(x, "person < 2", 2);
+        Edges.die(x, "person < 2", 2);
         Check.due("the dead go round, too", 7, x.round());
         Check.due("one other alone lives", 12, x.escheat());
         Check.due("one witness", 2, Check.valley(x, "witnesses 1"));
@@ -108,9 +102,9 @@ public final class ReckoningsTest {
         Check.due("no witnesses enough", 2, Check.valley(x, "witnesses 5"));
         Check.due("each by itself", 31, x.watch());
         Check.due("witnesses again", 3, Check.valley(x, "witnesses 0"));
-        kill(x, "person > 0 and person < 4", 3);
+        Edges.die(x, "person > 0 and person < 4", 3);
         Check.due("0 has none but itself, 4 has 0", 1, x.watch());
-        kill(x, "person < 8", 2);
+        Edges.die(x, "person < 8", 2);
         Check.due("nobody to be kept", 0, x.watch());
     }
 
@@ -131,7 +125,7 @@ public final class ReckoningsTest {
         Check.due("nobody can hold", 0, x.put(-1));
         Check.due("0 has", -1, x.put(0));
         Check.lawIs(x, "");
-        kill(x, "person > 1", 1);
+        Edges.die(x, "person > 1", 1);
         Check.due("the dead hold nothing", 15, x.put(-1));
         Check.due("2 has", -1, x.put(2));
         Check.due("nothing is put by that", 0, x.count(8));
@@ -174,7 +168,7 @@ public final class ReckoningsTest {
             Check.refused("pairs " + p, Check.INDEX, x, () -> x.pairs(p));
         }
         GripEstates y = three("");
-        kill(y, "person > 1", 1);
+        Edges.die(y, "person > 1", 1);
         Check.due("the dead are in none", 8, y.pairs(-1));
         Check.due("2 with", -1, y.pairs(2));
         Check.due("1 with", 0, y.pairs(1));
@@ -218,7 +212,7 @@ public final class ReckoningsTest {
         for (int p : nobody) {
             Check.refused("rests " + p, Check.INDEX, x, () -> x.rests(p));
         }
-        kill(x, "person > 2", 1);
+        Edges.die(x, "person > 2", 1);
         Check.due("a dead one has and loses nothing", 4, x.rests(3));
     }
 
@@ -232,7 +226,7 @@ public final class ReckoningsTest {
             Check.refused("odds " + n, Check.ARGUMENT, x, () -> x.odds(n));
         }
         Check.due("four nights", true, x.odds(4) < x.odds(3));
-        kill(x, "person < 1", 1);
+        Edges.die(x, "person < 1", 1);
         Check.due("without the dead one", 9024, x.odds(1));
         Check.due("death", 2, Check.valley(x, "death 100"));
         Check.due("surely not", 0, x.odds(1));
@@ -256,11 +250,11 @@ public final class ReckoningsTest {
             Check.refused("most " + what, Check.ELEMENT, x, () -> x.most(what));
             Check.dueOf("most of nobody " + what, Check.ELEMENT, () -> new GripEstates().most(what));
         }
-        kill(x, "person < 1", 1);
+        Edges.die(x, "person < 1", 1);
         Check.due("oldest", 2, x.most(0));
         Check.due("strongest", 2, x.most(1));
         Check.due("richest", 1, x.most(2));
-        kill(x, "person < 9", 2);
+        Edges.die(x, "person < 9", 2);
         for (int what = 0; what < 3; what++) {
             Check.due("nobody lives", -1, x.most(what));
         }
@@ -275,7 +269,7 @@ public final class ReckoningsTest {
         Check.due("idle", 3, x.idle());
         Check.due("crown", 12, x.crown());
         Check.due("wealth", 97, x.wealth());
-        kill(x, "person < 2", 2);
+        Edges.die(x, "person < 2", 2);
         Check.due("living", 4, x.living());
         Check.due("the dead are not idle", 4, x.idle());
         Check.due("crown", 13, x.crown());

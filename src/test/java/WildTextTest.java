@@ -1,9 +1,9 @@
 import java.util.Random;
 
-/** Promises 4 to 6 on texts that chance has spoilt: right or IllegalArgumentException, and of wrong ones nothing stays. */
+/** Promises 4 to 6 on texts that chance has spoilt: the first wrong byte is the grammar's, and of wrong texts nothing stays. */
 public final class WildTextTest {
     private static final int TEXTS = 60000;
-    private static final String VALLEY = "person age 40 grip 5;person age 20 grip 3;thing worth 3 size 3 of 0 held 1";
+    private static final String VALLEY = "person age 4 grip 5;person age 2 grip 3;person age 1 grip 1;thing worth 3 size 3 of 0 held 1";
     private static final String[] WORDS = {"person", "age", "grip", "heir", "tied", "thing", "worth", "size", "of", "held",
         "cloth", "crown", "death", "witnesses", "night", "slip", "fail", "if", "or", "and", "not", "open", "alone", "hand",
         "owns", "laid", ";", "(", ")", "+", "<", ">", "0", "1", "2", "6", "7", "12", "13", "40", "41", "99", "100", "101",
@@ -26,11 +26,29 @@ public final class WildTextTest {
         Check.end();
     }
 
-    private void spoilt(boolean law) {
+    /** Three people, of whom 2 is dead, and a thing that 1 holds. */
+    private static GripEstates valley() {
         GripEstates x = Check.of(VALLEY);
+        Edges.die(x, "person > 1", 1);
+        return x;
+    }
+
+    private static Grammar grammar(String text) {
+        Grammar g = new Grammar(text);
+        g.person(true, false);
+        g.person(true, true);
+        g.person(false, false);
+        g.thing();
+        return g;
+    }
+
+    private void spoilt(boolean law) {
+        GripEstates x = valley();
         Model m = new Model();
-        m.addPerson(40, 5, -1, false);
-        m.addPerson(20, 3, -1, false);
+        m.addPerson(4, 5, -1, false);
+        m.addPerson(2, 3, -1, false);
+        m.addPerson(1, 1, -1, false);
+        m.people.get(2).living = false;
         m.addThing(3, 3, 0, 1, -1);
         Texts texts = new Texts(chance);
         StringBuilder text = new StringBuilder(law ? texts.law(m) : texts.valley(m, 1 + chance.nextInt(14)));
@@ -58,25 +76,30 @@ public final class WildTextTest {
         for (int i = 0; i < many; i++) {
             text.append(WORDS[chance.nextInt(WORDS.length)]).append(chance.nextInt(3) > 0 ? " " : "");
         }
-        read(Check.of(VALLEY), text.toString(), chance.nextBoolean());
+        read(valley(), text.toString(), chance.nextBoolean());
     }
 
     private void tapeOfBytes() {
         GripEstates x = new GripEstates();
         int[] bytes = new int[chance.nextInt(400)];
+        StringBuilder text = new StringBuilder();
         for (int i = 0; i < bytes.length; i++) {
             bytes[i] = chance.nextInt(256);
+            text.append((char) bytes[i]);
         }
+        boolean law = chance.nextBoolean();
         Check.tape(x, bytes);
-        long answer = Check.answerOf(chance.nextBoolean() ? x::law : x::valley);
-        Check.due("bytes by chance", true, answer == Check.ARGUMENT || bytes.length < 3);
-        Check.due("fault within", true, x.fault() >= -1 && x.fault() <= bytes.length);
+        long answer = Check.answerOf(law ? x::law : x::valley);
+        int fault = law ? new Grammar(text.toString()).law() : new Grammar(text.toString()).valley();
+        Check.due("bytes by chance", fault >= 0, answer == Check.ARGUMENT);
+        Check.due("their fault", fault, x.fault());
     }
 
     private void read(GripEstates x, String text, boolean law) {
         String before = Check.seen(x);
         Check.text(x, text);
         long answer = Check.answerOf(law ? x::law : x::valley);
+        Check.due("fault of " + text, law ? grammar(text).law() : grammar(text).valley(), x.fault());
         Check.due("the tape is used up", false, x.end(1));
         if (answer != Check.ARGUMENT) {
             Check.due("right: " + text, true, answer < Check.INDEX && x.fault() == -1);
@@ -101,7 +124,7 @@ public final class WildTextTest {
             boolean within = kind(text.charAt(fault)) > 0 && kind(text.charAt(fault)) == kind(text.charAt(fault - 1));
             Check.due("a begin at " + fault + " of " + text, false, within);
         }
-        GripEstates y = Check.of(VALLEY);
+        GripEstates y = valley();
         String ahead = text.substring(0, fault);
         Check.text(y, ahead);
         long answer = Check.answerOf(law ? y::law : y::valley);
