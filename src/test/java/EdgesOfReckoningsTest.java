@@ -143,6 +143,9 @@ public final class EdgesOfReckoningsTest {
         Check.due("all that is worth something", 15, x.hoard(0, 120, true));
         GripEstates y = of(1, "thing worth 0 size 1 of 0;thing worth 0 size 1 of 0");
         Check.due("of no worth none", 0, y.hoard(0, 120, true));
+        GripEstates least = of(1, "thing worth 0 size 1 of 0;thing worth 1 size 1 of 0");
+        Check.due("of the least worth", 1, least.hoard(0, 1, false));
+        Check.due("which", 2, least.hoard(0, 1, true));
     }
 
     private static void lines() {
@@ -304,6 +307,7 @@ public final class EdgesOfReckoningsTest {
         Edges.tell(x, "thing worth 98 size 5 of 0 held 5;thing worth 5 size 6 of 6 held 6");
         Edges.person(x, 16, 0, 1, 2, 3, 4, 5, 6);
         Edges.thing(x, 4, 0, 1, 2, 3, 4, 5, 6);
+        Edges.person(of(1, "thing worth 0 size 12 of 0 held 0"), 16, 0);
     }
 
     private static void coresOfNothing() {
@@ -498,7 +502,9 @@ public final class EdgesOfReckoningsTest {
         opens(5, 1, 3, 2, 1);
         // Of 0, 2, 8 and 10 one loses by 1 and 9: so of 9 and of 11 one wins by both.
         opens(9, 1, 9, 1);
+        opens(9, 1, 1, 9);
         opens(11, 1, 9, 1);
+        opens(11, 1, 1, 9);
         opens(10, -1, 9, 1);
         opens(99, 3, 3, 2, 1);
         opens(96, -1, 3, 2, 1);

@@ -548,6 +548,9 @@ public final class EdgesOfTextsTest {
         Check.due("an empty text", 1, Edges.told(x, ""));
         Check.due("one blank", 2, Edges.told(x, " "));
         Check.due("400 blanks", 3, Edges.told(x, " ".repeat(400)));
+        Edges.wrongValley(x, " ".repeat(399) + "@x");
+        Edges.wrongLaw(x, " ".repeat(399) + "@x");
+        Edges.tell(x, "");
         Check.due("fault", -1, x.fault());
         Check.due("nobody", 0, x.count(0) + x.count(1));
         Check.due("no law yet", -1, x.count(3));
