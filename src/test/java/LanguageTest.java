@@ -2,6 +2,8 @@ import com.sun.source.tree.AssertTree;
 import com.sun.source.tree.BinaryTree;
 import com.sun.source.tree.ClassTree;
 import com.sun.source.tree.CompilationUnitTree;
+import com.sun.source.tree.DoWhileLoopTree;
+import com.sun.source.tree.ForLoopTree;
 import com.sun.source.tree.ImportTree;
 import com.sun.source.tree.LambdaExpressionTree;
 import com.sun.source.tree.MemberReferenceTree;
@@ -12,18 +14,24 @@ import com.sun.source.tree.SynchronizedTree;
 import com.sun.source.tree.ThrowTree;
 import com.sun.source.tree.Tree;
 import com.sun.source.tree.TryTree;
+import com.sun.source.tree.VariableTree;
 import com.sun.source.tree.WhileLoopTree;
 import com.sun.source.util.JavacTask;
 import com.sun.source.util.TreePathScanner;
 import com.sun.source.util.Trees;
 import java.io.File;
+import java.nio.charset.StandardCharsets;
+import java.nio.file.Files;
+import java.nio.file.Path;
 import java.util.HashSet;
 import java.util.Map;
 import java.util.Set;
 import java.util.TreeMap;
 import java.util.TreeSet;
 import javax.lang.model.element.Element;
+import javax.lang.model.element.ElementKind;
 import javax.lang.model.element.ExecutableElement;
+import javax.lang.model.element.Modifier;
 import javax.tools.JavaCompiler;
 import javax.tools.StandardJavaFileManager;
 import javax.tools.ToolProvider;
@@ -33,6 +41,7 @@ public final class LanguageTest extends TreePathScanner<Void, Void> {
     private static final Set<String> LIBRARY = Set.of("String.length", "String.charAt", "Integer.bitCount",
         "Math.min", "Math.max", "System.arraycopy", "Array.clone",
         "Object.<init>", "Enum.<init>", "Token.values");
+    private static final Set<String> STATIC = Set.of("int", "long", "boolean", "char", "String", "Token[] ALL = values()");
     private static final Set<String> THROWN = Set.of("IllegalStateException", "IllegalArgumentException",
         "IndexOutOfBoundsException", "UnsupportedOperationException", "NoSuchElementException");
 
@@ -57,6 +66,9 @@ public final class LanguageTest extends TreePathScanner<Void, Void> {
         test.scan(unit, null);
         Check.due("some twelve classes, " + test.classes, true, test.classes <= 13);
         test.depths();
+        byte[] source = Files.readAllBytes(Path.of("src/main/java/GripEstates.java"));
+        Check.due("signs of 1 to 127", true, StandardCharsets.US_ASCII.newEncoder().canEncode(
+            new String(source, StandardCharsets.UTF_8)));
         Check.end();
     }
 
@@ -134,6 +146,35 @@ public final class LanguageTest extends TreePathScanner<Void, Void> {
             no("a loop without an end", tree);
         }
         return super.visitWhileLoop(tree, nothing);
+    }
+
+    @Override
+    public Void visitForLoop(ForLoopTree tree, Void nothing) {
+        if (tree.getCondition() == null) {
+            no("a loop without an end", tree);
+        }
+        return super.visitForLoop(tree, nothing);
+    }
+
+    @Override
+    public Void visitDoWhileLoop(DoWhileLoopTree tree, Void nothing) {
+        if (tree.getCondition().toString().equals("(true)")) {
+            no("a loop without an end", tree);
+        }
+        return super.visitDoWhileLoop(tree, nothing);
+    }
+
+    @Override
+    public Void visitVariable(VariableTree tree, Void nothing) {
+        Element field = trees.getElement(getCurrentPath());
+        if (field.getKind() == ElementKind.FIELD && field.getModifiers().contains(Modifier.STATIC)) {
+            String kept = tree.getType() + " " + tree.getName() + " = " + tree.getInitializer();
+            Check.due("a constant: " + kept, true, field.getModifiers().contains(Modifier.FINAL)
+                && (STATIC.contains(tree.getType().toString()) || STATIC.contains(kept)));
+        }
+        String type = String.valueOf(trees.getTypeMirror(getCurrentPath()));
+        Check.due("arrays of one dimension: " + tree.getName(), false, type.contains("[][]"));
+        return super.visitVariable(tree, nothing);
     }
 
     @Override
